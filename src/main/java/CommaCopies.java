@@ -37,8 +37,8 @@ public final class CommaCopies {
     private final State now = new State();
     private final State kept = new State();
     private final Sheets sheets = new Sheets();
-    private final Joins joins = new Joins();
-    private final Laws laws = new Laws(joins);
+    private final Laws laws = new Laws();
+    private final Joins joins = laws.joins;
     private final Matcher matcher = new Matcher();
     private final Chance chance = new Chance();
     private final Hiding hiding = new Hiding();
@@ -915,7 +915,7 @@ public final class CommaCopies {
 
     /** Holds the LAWS against all sets and PRINTS. */
     private static final class Laws {
-        private final Joins joins;
+        private final Joins joins = new Joins();
         private final int[] row = new int[PLACES];
 
         // Sets of the list as bits of two longs: those that CAN a value at a PLACE, those with a COPY in them.
@@ -925,10 +925,6 @@ public final class CommaCopies {
         private final long[] withHigh = new long[COPIES];
         private int first;
         private int second;
-
-        private Laws(Joins joins) {
-            this.joins = joins;
-        }
 
         /** Whether a LAW is broken as if there were these PLACES alone; THE BREACH is kept then. */
         private boolean broken(int law, int placeSet) {

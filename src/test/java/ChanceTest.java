@@ -9,6 +9,7 @@ public final class ChanceTest {
         put();
         putAll();
         hidden();
+        hiddenOfSix();
         hiddenRefusals();
         keep();
         past();
@@ -140,6 +141,23 @@ public final class ChanceTest {
         x.mended(0, 2);
         check.due("29 mended", x.hidden(2, -1), 1);
         check.due("29 mended, value", x.hidden(2, 0) * 10 + x.hidden(2, 1), 21);
+    }
+
+    private static void hiddenOfSix() {
+        CommaCopies x = Check.with("[a/b][a/b][a/b][a/b][a/b][a/b]", Check.row(1, 0, 1, 1, 0, 1), Check.row(0, 1, 0, 0, 1, 0));
+        check.due("29 six alone", x.hidden(1, -1), 6);
+        check.due("29 six alone, the last", x.hidden(1, 5), 1);
+        check.due("29 three of each", x.hidden(3, -1), 3);
+        // 000000 scores 4 for copy 1; 000001 scores 3 for each: places 1, 4, 5 and places 0, 2, 3.
+        int[] want = {0, 0, 0, 0, 0, 1};
+        for (int p = 0; p < 6; p++) {
+            check.due("29 three of each, " + p, x.hidden(3, p), want[p]);
+        }
+        for (int c = 2; c < 8; c++) {
+            Check.copy(x, 1, 0, 1, 1, 0, 1);
+        }
+        check.due("29 eight", x.hidden(255, -1), 3);
+        check.due("29 the last of eight", x.hidden(128, -1), 6);
     }
 
     private static void hiddenRefusals() {

@@ -12,6 +12,8 @@ public final class LawTest {
         refusals();
         fewest();
         more();
+        moreByJoining();
+        crowd();
         moreRefusals();
         check.end();
     }
@@ -94,6 +96,33 @@ public final class LawTest {
         check.due("21 any", x.breach(2, 0), 0);
     }
 
+    /** All 92 sets of eight copies, N = 3. */
+    private static void crowd() {
+        CommaCopies x = Check.with("[a/b]-[a/b]-[a/b]-[a/b]-[a/b]-[a/b]");
+        for (int c = 0; c < 8; c++) {
+            int[] row = new int[6];
+            for (int p = 0; p < 6; p++) {
+                row[p] = p < 5 && p == c ? 1 : 0;
+            }
+            Check.copy(x, row);
+        }
+        x.set(0, 3);
+        check.due("13 all sets", x.count(4), 92);
+        check.due("17 the last of one", x.maker(7), 128);
+        check.due("17 the first of two", x.maker(8), 3);
+        check.due("17 the first of three", x.maker(36), 7);
+        check.due("17 the last of all", x.maker(91), 224);
+        check.due("17 no more", x.maker(92), -4);
+        // Copies 5, 6, 7 are alike.
+        check.due("21 set", x.breach(0, 0), 32);
+        check.due("21 copy", x.breach(0, 1), 6);
+        check.due("21 apart, first", x.breach(1, 0), 1 << 5);
+        check.due("21 apart, other", x.breach(1, 1), 1 << 6);
+        Check.print(x, 1, 1, 1, 0, 0, 0);
+        check.due("18 three are sure", x.blamed(0), 7);
+        check.due("13 one set alone", x.count(4), 1);
+    }
+
     private static void refusals() {
         CommaCopies x = Check.with("[a/b]-[c/d]", Check.row(0, 1), Check.row(0, 1));
         check.due("20 below", x.holds(-1), -1);
@@ -147,6 +176,38 @@ public final class LawTest {
         CommaCopies y = Check.with("[a/b]-[c/d/e]", Check.row(0, 0), Check.row(1, 1));
         check.due("23 framed by those who join", y.more(0, 0) * 10 + y.more(0, 1), 2);
         check.due("23 apart", y.more(1, 0) * 10 + y.more(1, 1), 2);
+    }
+
+    /** What is added must not join with one that is there to frame another, or to meet others. */
+    private static void moreByJoining() {
+        CommaCopies x = Check.with("[a/b]-[c/d]-[e/f]", Check.row(1, 1, 0), Check.row(1, 0, 1));
+        check.due("23 two of them", number(x, 0), 0);
+        CommaCopies y = Check.with("[a/b]-[c/d]-[e/f]", Check.row(0, 0, 1), Check.row(0, 1, 0));
+        // 000 is framed by both; 011, too; 100 and 111 are not, and frame nobody with one of them.
+        check.due("23 not what two frame", number(y, 0), 100);
+        y.set(0, 1);
+        check.due("23 alone", number(y, 0), 0);
+        CommaCopies z = Check.with("[a/b/c]-[d/e/f]", Check.row(0, 1), Check.row(1, 0), Check.row(2, 2));
+        check.due("23 none is apart", number(z, 1), -4 * 10 - 4);
+        z.burn(2);
+        check.due("23 apart of two", number(z, 1), 2);
+        CommaCopies six = Check.with("[a/b][a/b][a/b][a/b][a/b][a/b/c/d]", Check.row(0, 0, 0, 0, 0, 0));
+        check.due("23 the last place counts least", six.more(0, 4) * 10 + six.more(0, 5), 1);
+        for (int k = 1; k < 4; k++) {
+            Check.copy(six, 0, 0, 0, 0, 0, k);
+        }
+        check.due("23 each of these would frame with one that is there", six.more(0, 4), -4);
+        six.set(0, 1);
+        check.due("23 then the one ahead of it", six.more(0, 4) * 10 + six.more(0, 5), 10);
+    }
+
+    /** A COPY more by a law, three places or two as one number. */
+    private static int number(CommaCopies x, int law) {
+        int n = 0;
+        for (int p = 0; p < x.count(0); p++) {
+            n = n * 10 + x.more(law, p);
+        }
+        return n;
     }
 
     private static void moreRefusals() {

@@ -80,6 +80,8 @@ public final class LetterTest {
         check.due("3 six", letter("[a/b][a/b][a/b][a/b][a/b][a/b]x"), 6);
         check.due("3 eight bytes of a choice", letter("[12345678/12345678]"), 1);
         check.due("3 blanks", letter("   "), 0);
+        check.due("3 eight bytes behind eight bytes", letter("[a/12345678][12345678/a]"), 2);
+        check.due("3 many bytes outside", letter("[a/1]1234567890[12345678/a]1234567890"), 2);
         CommaCopies x = new CommaCopies();
         Check.letter(x, "[a/b]");
         check.due("3 tape is empty", x.type('a', 1), 1);
@@ -100,6 +102,8 @@ public final class LetterTest {
         check.due("3 the end within a choice", letter("[a/b"), -24);
         check.due("3 the end behind /", letter("x[a/"), -24);
         check.due("3 the first of two", letter("]["), -20);
+        check.due("3 ninth byte of a later place", letter("[a/1][123456789/a]"), -34);
+        check.due("3 the very first byte", letter("/[a/b]"), -20);
         CommaCopies x = Check.with("u[a/b]", Check.row(1));
         x.cost(0, 1, 7);
         x.print(0, 1);
@@ -255,6 +259,17 @@ public final class LetterTest {
         check.due("9 gone", x.choice(1, 1), -1);
         check.due("9 all", x.burn(0), 0);
         check.due("9 none is left", x.burn(0), -1);
+        CommaCopies y = Check.with("[a/b/c/d]-[a/b]");
+        for (int k = 0; k < 8; k++) {
+            Check.copy(y, k / 2, k % 2);
+        }
+        check.due("9 of eight", y.burn(2), 7);
+        for (int k = 2; k < 7; k++) {
+            check.due("9 one down " + k, y.choice(k, 0) * 2 + y.choice(k, 1), k + 1);
+        }
+        check.due("9 the first two stay", y.choice(1, 0) * 2 + y.choice(1, 1), 1);
+        check.due("9 room again", Check.copy(y, 3, 1), 7);
+        check.due("9 full again", Check.copy(y, 3, 1), -3);
     }
 
     private static void reads() {
@@ -300,6 +315,9 @@ public final class LetterTest {
         x.set(0, 3);
         check.due("13 makers of three", x.count(4), 6);
         check.due("13 lost", x.count(5), 1);
+        x.print(0, 4);
+        check.due("13 left out is not lost", x.count(5), 0);
+        check.due("13 lost at six places", Check.with("[/][/][/][/][/][/]").count(5), 6);
         check.due("13 above", x.count(6), -1);
         check.due("13 below", x.count(-1), -1);
     }

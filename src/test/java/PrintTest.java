@@ -5,6 +5,7 @@ public final class PrintTest {
     public static void main(String[] args) {
         print();
         printed();
+        printedWhole();
         printedRefusals();
         couldMix();
         couldAny();
@@ -47,6 +48,21 @@ public final class PrintTest {
         check.due("15 values", y.print(0, 5) * 100 + y.print(1, 5) * 10 + y.print(2, 5), 21);
         check.due("15 no byte at all", Check.printed(y, ""), 1);
         check.due("15 values of nothing", y.print(0, 5) * 100 + y.print(1, 5) * 10 + y.print(2, 5), 421);
+    }
+
+    private static void printedWhole() {
+        CommaCopies x = Check.with("a[b/bb]c[/d]e[f/g][h/i][j/k]l[m/n]o");
+        check.due("15 six places", Check.printed(x, "abbcdegikmo"), -4);
+        check.due("15 six places, as it reads", Check.printed(x, "abbcdegikl" + "no"), 1);
+        int[] want = {1, 1, 1, 1, 1, 1};
+        for (int p = 0; p < want.length; p++) {
+            check.due("15 six places, " + p, x.print(p, 5), want[p]);
+        }
+        check.due("15 six places, all left out", Check.printed(x, "acelo"), 1);
+        int[] out = {4, 0, 4, 4, 4, 4};
+        for (int p = 0; p < out.length; p++) {
+            check.due("15 six places, left out " + p, x.print(p, 5), out[p]);
+        }
     }
 
     private static void printedRefusals() {
@@ -118,6 +134,12 @@ public final class PrintTest {
         x.print(1, 1);
         check.due("16 mended, own ones stay", x.could(2), 1);
         check.due("16 mended to another", x.could(1), 0);
+        x.mended(1, 0);
+        x.print(1, 0);
+        check.due("16 mended to choice 0", x.could(2), 1);
+        x.mended(1, -1);
+        check.due("16 mended no more", x.could(2), 0);
+        x.mended(1, 2);
         x.set(1, 2);
         x.print(1, 4);
         check.due("16 mended makes none unlike", x.could(1), 0);

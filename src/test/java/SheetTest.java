@@ -29,6 +29,10 @@ public final class SheetTest {
         check.due("34 a new row", x.sheet(3, 2, 12), 12);
         check.due("34 of zeros", x.copyOf(3, 2, 11), 0);
         check.due("34 zero", x.choice(0, 0), 0);
+        x.item(3, 2, 0, 3);
+        x.sheet(3, 2, 12);
+        x.copyOf(3, 2, 0);
+        check.due("34 zero at item 0, too", x.choice(1, 0), 0);
         check.due("34 another lane", x.sheet(3, 1, 2), 2);
         check.due("34 the older lane is gone", x.copyOf(3, 2, 0), -12);
     }
