@@ -79,8 +79,10 @@ final class Check {
 
     static String readsAll(CommaCopies x, int copy) {
         StringBuilder text = new StringBuilder();
-        for (int i = 0; x.reads(copy, i) >= 0; i++) {
-            text.append((char) x.reads(copy, i));
+        int b = x.reads(copy, 0);
+        for (int i = 1; b >= 0; i++) {
+            text.append((char) b);
+            b = x.reads(copy, i);
         }
         return text.toString();
     }
