@@ -693,7 +693,7 @@ public final class CommaCopies {
                 tally[rows[c * PLACES + place]]++;
             }
             int best = 0;
-            int least = Integer.MAX_VALUE;
+            int least = COPIES * TOP_COST + 1;
             for (int order = 0; order < 256; order++) {
                 if (isOrder(order, letter.choiceCounts[place])) {
                     int sum = costBy(order, place);

@@ -31,6 +31,7 @@ public final class ChanceEdgeTest {
         imageOverAnOlderOne();
         restoreLeavesSheetsAndTape();
         restoreAgain();
+        restorePasts();
         restoreNone();
         edge.end();
     }
@@ -405,6 +406,37 @@ public final class ChanceEdgeTest {
         Check.letter(x, "ab");
         x.restore();
         check.due("33 THE LETTER", x.count(3), 120);
+    }
+
+    /** PASTS with N, HOW as they were then. */
+    private static void restorePasts() {
+        CommaCopies x = Check.with("[a/b/c]", Check.row(0), Check.row(1));
+        x.print(0, 4);
+        x.set(1, 2);
+        x.keep();
+        x.image();
+        Check.letter(x, "[a/b/c]");
+        x.print(0, 0);
+        x.set(0, 1);
+        x.set(1, 0);
+        x.keep();
+        x.keep();
+        check.due("33 one PAST", x.restore() * 10 + x.count(2), 11);
+        check.due("33 both are SURE", x.past(0, 0) * 10 + x.past(1, 0), 11);
+        Check.letter(x, "[a/b/c]");
+        Check.copies(x, Check.row(0), Check.row(1));
+        x.print(0, 4);
+        x.set(0, 1);
+        x.keep();
+        x.restore();
+        check.due("33 N of the PAST", x.past(0, 0), 1);
+        Check.letter(x, "[a/b/c]");
+        x.print(0, 4);
+        x.set(0, 2);
+        x.set(1, 0);
+        x.keep();
+        x.restore();
+        check.due("33 HOW of the PAST", x.past(0, 0), 1);
     }
 
     private static void restoreNone() {

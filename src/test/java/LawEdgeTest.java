@@ -20,11 +20,19 @@ public final class LawEdgeTest {
         fewestAllSix();
         fewestOfLikeOnes();
         fewestNotByAll();
+        fewestAsIfThereWereNoOthers();
         moreBounds();
         moreUpToEight();
         moreNoRowLeft();
         moreOrder();
         moreBrokenAlready();
+        moreFramedByTheFirst();
+        moreWithTheFirst();
+        moreOfWhatWent();
+        namedByEachThree();
+        namedThoughFourWouldDo();
+        fewerPlacesThanAhead();
+        fewerCopiesThanAhead();
         edge.end();
     }
 
@@ -200,6 +208,16 @@ public final class LawEdgeTest {
         }
     }
 
+    /** By PLACE 1 alone the paper helps 0 and 2 to copy 1's ROW, though nobody else has copy 1's CHOICE at PLACE 0. */
+    private static void fewestAsIfThereWereNoOthers() {
+        CommaCopies x = Check.with("[a/b][a/b/c]", Check.row(1, 0), Check.row(0, 1), Check.row(1, 2));
+        x.set(0, 1);
+        x.mended(1, 1);
+        check.due("22 neither PLACE alone by FRAMED", x.fewest(0), 3);
+        check.due("22 APART: 0 and 2 make (1, 1) in common", x.fewest(1), -4);
+        check.due("22 NAMED: nobody is for (1, 1)", x.fewest(2), -4);
+    }
+
     private static void moreBounds() {
         for (Scene s : Scene.values()) {
             edge.leavesEach("23 no such LAW", s, -1, (x, v) -> x.more(v, 0), -1, 2, 3, MIN, MAX);
@@ -261,5 +279,132 @@ public final class LawEdgeTest {
         check.due("23 APART is broken", x.more(1, 0), -4);
         x.burn(0);
         check.due("23 no more", x.more(0, 0), 0);
+    }
+
+    /** Alone, copy 0 makes the ROW (0, 1) by what the paper MENDS to. */
+    private static void moreFramedByTheFirst() {
+        CommaCopies x = Check.with("[a/b][c/d]", Check.row(0, 0));
+        x.set(0, 1);
+        x.mended(1, 1);
+        check.due("23 not one that copy 0 frames", x.more(0, 0), 1);
+        check.due("23 but the next", x.more(0, 1), 0);
+    }
+
+    /** The new COPY joins copy 0 against copy 1, or copy 1 against copy 0: no ROW is left. */
+    private static void moreWithTheFirst() {
+        CommaCopies x = Check.with("[a/b][a/b]", Check.row(0, 0), Check.row(0, 1));
+        check.due("23 FRAMED by copy 0 and the new one", x.more(0, 0), -4);
+        check.due("23 APART from copy 0", x.more(1, 0), -4);
+        x.set(0, 1);
+        check.due("23 nobody joins", x.more(0, 0) * 10 + x.more(0, 1), 10);
+    }
+
+    /** Copy 0 has 0 everywhere, three others at two places each, the last of them as told; nobody else has a 0. */
+    private static void three(CommaCopies x, int set, int lastValue) {
+        while (x.count(1) > 0) {
+            x.burn(0);
+        }
+        Check.copy(x, 0, 0, 0, 0, 0, 0);
+        int at = 0;
+        for (int c = 1; c < 8; c++) {
+            int[] row = {1 + c % 3, 1 + c / 3, 1, 2, 3, 1 + c % 2};
+            if ((set >> c & 1) == 1) {
+                row[at] = 0;
+                row[at + 1] = at == 4 ? lastValue : 0;
+                at += 2;
+            }
+            Check.copy(x, row);
+        }
+    }
+
+    private static int sumOfBreach(CommaCopies x) {
+        int sum = 0;
+        for (int p = 0; p < 6; p++) {
+            sum += x.breach(2, p);
+        }
+        return sum;
+    }
+
+    /** Whichever three of eight make 0 everywhere without copy 0, it is the first PRINT for which nobody is named. */
+    private static void namedByEachThree() {
+        for (int set = 0; set < 256; set += 2) {
+            if (Integer.bitCount(set) == 3) {
+                CommaCopies x = Check.with("[a/b/c/d]".repeat(6));
+                x.set(0, 3);
+                three(x, set, 0);
+                check.due("21 three make the first PRINT, " + set, sumOfBreach(x), 0);
+                three(x, set, 1);
+                check.due("21 three do not any more, " + set, sumOfBreach(x) > 0 ? 1 : 0, 1);
+                three(x, set, 0);
+                x.set(0, 2);
+                check.due("21 three are more than N, " + set, sumOfBreach(x) == 0 ? 1 : 0, 0);
+            }
+        }
+    }
+
+    private static void moreOfWhatWent() {
+        CommaCopies x = Check.with("[a/b/c]", Check.row(0), Check.row(1));
+        check.due("23 behind two", x.more(0, 0), 2);
+        x.burn(1);
+        check.due("23 the ROW of the one that went", x.more(0, 0), 1);
+        check.due("23 the ROW of the one that went, APART", x.more(1, 0), 1);
+        x.burn(0);
+        check.due("23 none is left", x.more(0, 0), 0);
+    }
+
+    /** Copy 7 has 0 everywhere; without it four would be needed for this, which are more than N. */
+    private static void namedThoughFourWouldDo() {
+        for (int set = 0; set < 128; set++) {
+            if (Integer.bitCount(set) == 4) {
+                CommaCopies x = Check.with("[a/b/c/d]".repeat(6));
+                x.set(0, 3);
+                int at = 0;
+                for (int c = 0; c < 7; c++) {
+                    int[] row = {1 + c % 3, 1 + c / 3, 1, 2, 3, 1 + c % 2};
+                    if ((set >> c & 1) == 1) {
+                        int end = at == 0 ? 3 : at + 1;
+                        for (; at < end; at++) {
+                            row[at] = 0;
+                        }
+                    }
+                    Check.copy(x, row);
+                }
+                Check.copy(x, 0, 0, 0, 0, 0, 0);
+                check.due("21 copy 7 is named for the first PRINT, " + set, sumOfBreach(x) == 0 ? 1 : 0, 0);
+            }
+        }
+    }
+
+    /** Nothing of a LETTER with more PLACES and CHOICES is left. */
+    private static void fewerPlacesThanAhead() {
+        CommaCopies x = Scene.BRIM.make("");
+        x.set(1, 1);
+        for (int law = 0; law < 3; law++) {
+            x.holds(law);
+        }
+        x.hidden(255, -1);
+        Check.letter(x, "[a/b][a/b]");
+        Check.copies(x, Check.row(0, 0), Check.row(1, 1));
+        check.due("29 any CHOICE of two", x.hidden(3, -1), 1);
+        check.due("29 the first of two", x.hidden(3, 0) * 10 + x.hidden(3, 1), 1);
+        check.due("21 FRAMED holds", x.breach(0, 0), -4);
+        check.due("22 one PLACE does", x.fewest(1), 1);
+        check.due("23 all other ROWS meet those who are there", x.more(1, 0), -4);
+        x.set(0, 1);
+        check.due("23 APART", x.more(1, 0) * 10 + x.more(1, 1), 1);
+    }
+
+    /** Nothing of sets with a COPY that went is left: of three pairs, which make 1 everywhere, nobody is in all. */
+    private static void fewerCopiesThanAhead() {
+        CommaCopies x = Check.with("[a/b][a/b][a/b]", Check.row(0, 1, 1), Check.row(1, 0, 1), Check.row(1, 1, 0),
+            Check.row(0, 0, 0));
+        check.due("20 NAMED of four", x.holds(2), 0);
+        x.burn(3);
+        check.due("20 NAMED of three", x.holds(2), 0);
+        check.due("21 1 everywhere", x.breach(2, 0) * 100 + x.breach(2, 1) * 10 + x.breach(2, 2), 111);
+        x.burn(2);
+        check.due("20 NAMED of two", x.holds(2), 1);
+        check.due("20 FRAMED of two", x.holds(0), 1);
+        check.due("20 APART of two", x.holds(1), 1);
     }
 }
