@@ -27,11 +27,13 @@ public final class ChanceEdgeTest {
         pastBounds();
         pastByThen();
         pastCopiesOfNow();
+        pastMendedNow();
         imageKeeps();
         imageOverAnOlderOne();
         restoreLeavesSheetsAndTape();
         restoreAgain();
         restorePasts();
+        restoreAllThatThereMayBe();
         restoreNone();
         edge.end();
     }
@@ -322,6 +324,20 @@ public final class ChanceEdgeTest {
         check.due("31 in all six PASTS SURE", all.past(0, 0), 6);
     }
 
+    /** Of then are N and HOW alone: what the paper MENDS to now CAN be, what it MENDED to then CAN not. */
+    private static void pastMendedNow() {
+        CommaCopies x = Check.with("[a/b/c]", Check.row(0), Check.row(1));
+        x.mended(0, 2);
+        x.print(0, 2);
+        x.keep();
+        check.due("31 MENDED now as then", x.past(0, 1) * 10 + x.past(1, 1), 11);
+        x.mended(0, -1);
+        check.due("31 MENDED no more", x.past(0, 1) * 10 + x.past(1, 1), 0);
+        x.mended(0, 2);
+        check.due("31 MENDED again", x.past(0, 1) * 10 + x.past(1, 1), 11);
+        check.due("31 nobody is SURE of what is MENDED", x.past(0, 0) * 10 + x.past(1, 0), 0);
+    }
+
     /** An IMAGE changes nothing that is seen of now. */
     private static void imageKeeps() {
         for (Scene s : Scene.values()) {
@@ -437,6 +453,45 @@ public final class ChanceEdgeTest {
         x.keep();
         x.restore();
         check.due("33 HOW of the PAST", x.past(0, 0), 1);
+    }
+
+    private static CommaCopies allPlacesAndPasts() {
+        CommaCopies x = Check.with("[a/b/c/d]".repeat(6) + "-".repeat(65) + "z");
+        for (int c = 0; c < 8; c++) {
+            Check.copy(x, c % 4, c % 3, c % 2, c / 2, c / 3, c / 4);
+        }
+        x.set(0, 3);
+        x.set(1, 2);
+        for (int k = 0; k < 6; k++) {
+            Check.print(x, 5, 5, 5, 5, 5, 5);
+            x.print(k, 4);
+            x.keep();
+        }
+        x.image();
+        return x;
+    }
+
+    /** The last byte, the last PLACE and the last PAST come back, too, over another LETTER that has as many of them. */
+    private static void restoreAllThatThereMayBe() {
+        edge.same("33 all that there may be", () -> {
+            CommaCopies x = allPlacesAndPasts();
+            check.due("33 another LETTER of 120 bytes", Check.letter(x, "[a/b]".repeat(6) + "+".repeat(89) + "y"), 6);
+            x.set(0, 1);
+            x.set(1, 0);
+            Check.print(x, 0, 0, 0, 0, 0, 0);
+            for (int k = 0; k < 6; k++) {
+                x.keep();
+            }
+            for (int c = 0; c < 8; c++) {
+                Check.copy(x, 1, 1, 1, 1, 1, 1);
+            }
+            check.due("33 restore", x.restore(), 1);
+            return x;
+        }, () -> allPlacesAndPasts());
+        CommaCopies x = allPlacesAndPasts();
+        check.due("31 all MAY BE, by LEFT OUT at each PLACE", x.past(0, 1), 6);
+        check.due("10 the last byte", x.reads(0, 71), 'z');
+        check.due("4 the last PLACE", x.choices(5), 4);
     }
 
     private static void restoreNone() {

@@ -20,10 +20,21 @@ public final class FaceTest {
         "item(int,int,int,int)", "copy(int,int,int,int,int)");
 
     public static void main(String[] args) throws Exception {
+        classItself();
         methods();
         constants();
         privateNames();
         check.end();
+    }
+
+    private static void classItself() throws Exception {
+        int marks = CommaCopies.class.getModifiers();
+        check.due("public final class", Modifier.isPublic(marks) && Modifier.isFinal(marks) ? 1 : 0, 1);
+        check.due("no package", CommaCopies.class.getPackageName().isEmpty() ? 1 : 0, 1);
+        check.due("above it", CommaCopies.class.getSuperclass() == Object.class ? 1 : 0, 1);
+        check.due("beside it", CommaCopies.class.getInterfaces().length, 0);
+        marks = CommaCopies.class.getDeclaredConstructor().getModifiers();
+        check.due("public constructor", Modifier.isPublic(marks) ? 1 : 0, 1);
     }
 
     private static String told(Method m) {
@@ -40,6 +51,8 @@ public final class FaceTest {
             if (!Modifier.isPrivate(m.getModifiers())) {
                 open.add(told(m));
                 check.due(m.getName() + " is public", Modifier.isPublic(m.getModifiers()) ? 1 : 0, 1);
+                check.due(m.getName() + " is of an object", Modifier.isStatic(m.getModifiers()) ? 1 : 0, 0);
+                check.due(m.getName() + " tells of no exception", m.getExceptionTypes().length, 0);
                 check.due(m.getName() + " answers an int", m.getReturnType() == int.class ? 1 : 0, 1);
             }
         }
@@ -56,6 +69,8 @@ public final class FaceTest {
         for (Field f : CommaCopies.class.getDeclaredFields()) {
             boolean open = !Modifier.isPrivate(f.getModifiers());
             check.due("field " + f.getName(), open ? 1 : 0, names.contains(f.getName()) ? 1 : 0);
+            int constant = Modifier.PUBLIC | Modifier.STATIC | Modifier.FINAL;
+            check.due("constant " + f.getName(), !open || f.getModifiers() == constant && f.getType() == int.class ? 1 : 0, 1);
         }
     }
 
