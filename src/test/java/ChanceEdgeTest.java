@@ -455,10 +455,15 @@ public final class ChanceEdgeTest {
         check.due("33 HOW of the PAST", x.past(0, 0), 1);
     }
 
+    /** Nobody has CHOICE 1 anywhere. */
     private static CommaCopies allPlacesAndPasts() {
         CommaCopies x = Check.with("[a/b/c/d]".repeat(6) + "-".repeat(65) + "z");
         for (int c = 0; c < 8; c++) {
-            Check.copy(x, c % 4, c % 3, c % 2, c / 2, c / 3, c / 4);
+            int[] row = new int[6];
+            for (int p = 0; p < 6; p++) {
+                row[p] = (c >> p % 3 & 1) == 0 ? 0 : 2 + p % 2;
+            }
+            Check.copy(x, row);
         }
         x.set(0, 3);
         x.set(1, 2);
@@ -478,7 +483,7 @@ public final class ChanceEdgeTest {
             check.due("33 another LETTER of 120 bytes", Check.letter(x, "[a/b]".repeat(6) + "+".repeat(89) + "y"), 6);
             x.set(0, 1);
             x.set(1, 0);
-            Check.print(x, 0, 0, 0, 0, 0, 0);
+            Check.print(x, 1, 1, 1, 1, 1, 1);
             for (int k = 0; k < 6; k++) {
                 x.keep();
             }

@@ -31,6 +31,7 @@ public final class LawEdgeTest {
         moreOfWhatWent();
         namedByEachThree();
         namedThoughFourWouldDo();
+        namedByTheLastSetsAlone();
         fewerPlacesThanAhead();
         fewerCopiesThanAhead();
         edge.end();
@@ -372,6 +373,27 @@ public final class LawEdgeTest {
                 Check.copy(x, 0, 0, 0, 0, 0, 0);
                 check.due("21 copy 7 is named for the first PRINT, " + set, sumOfBreach(x) == 0 ? 1 : 0, 0);
             }
+        }
+    }
+
+    /**
+     * One of 2, 3 and one of 4, 5 and one of 6, 7 make 0 everywhere, and no other set: these are the last ones in order,
+     * and nobody is in all of them. If 7 and 5 have other CHOICES, 4 and 6 are in all.
+     */
+    private static void namedByTheLastSetsAlone() {
+        for (int pairs = 0; pairs < 8; pairs++) {
+            CommaCopies x = Check.with("[a/b/c/d]".repeat(6));
+            x.set(0, 3);
+            for (int c = 0; c < 8; c++) {
+                int[] row = {1 + c % 3, 1 + c / 3, 1, 2, 3, 1 + c % 2};
+                int pair = c / 2 - 1;
+                if (pair >= 0 && (c % 2 == 0 || (pairs >> pair & 1) == 1)) {
+                    row[2 * pair] = 0;
+                    row[2 * pair + 1] = 0;
+                }
+                Check.copy(x, row);
+            }
+            check.due("21 by the last sets alone, " + pairs, sumOfBreach(x) == 0 ? 1 : 0, pairs == 7 ? 1 : 0);
         }
     }
 
